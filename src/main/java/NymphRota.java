@@ -29,8 +29,8 @@ public final class NymphRota {
     private static final int SHELVES = 4;
     private static final int ROW_AS = 10;
 
+    /** WILL; 1, between these, is to keep, by which nothing is done. */
     private static final int RELIEVE = 0;
-    private static final int KEEP = 1;
     private static final int SMOKE = 2;
 
     private final Basin basin = new Basin();
@@ -668,7 +668,7 @@ public final class NymphRota {
         /** Whether a KIND is as, or under it. */
         static boolean isUnder(int kind, int as) {
             int at = kind;
-            for (int step = 0; step < ABOVE.length && isKind(at); step++) {
+            for (int step = 0; step < ABOVE.length && at >= 0 && at < ABOVE.length; step++) {
                 if (at == as) {
                     return true;
                 }
@@ -1013,11 +1013,13 @@ public final class NymphRota {
         static final int NUMBER = 4;
         static final int FACTS = 5;
 
-        /** Sorts of steps; one that compares is of the sort that Integer.compare answers, where it holds. */
-        static final int LESS = -1;
-        static final int NOT = 2;
-        static final int AND = 3;
-        static final int OR = 4;
+        /** Sorts of steps; those that compare stand as their SIGNS do among the bytes. */
+        static final int LESS = 0;
+        static final int EQUAL = 1;
+        static final int MORE = 2;
+        static final int NOT = 3;
+        static final int AND = 4;
+        static final int OR = 5;
 
         /** No step and no NUMBER is told by less than a byte of its own. */
         private static final int MOST_STEPS = Tape.MOST;
@@ -1107,8 +1109,9 @@ public final class NymphRota {
                         held = below | ((held | held >>> 1) & 1);
                         break;
                     default:
-                        int compared = Integer.compare(values[left[i]], values[right[i]]);
-                        held = held << 1 | (compared == sort[i] ? 1 : 0);
+                        int apart = values[left[i]] - values[right[i]];
+                        boolean isSo = sort[i] == LESS ? apart < 0 : sort[i] == EQUAL ? apart == 0 : apart > 0;
+                        held = held << 1 | (isSo ? 1 : 0);
                         break;
                 }
             }
@@ -1347,7 +1350,7 @@ public final class NymphRota {
             }
             pass();
             int sort = sight - '<' + Rules.LESS;
-            if (sight < '<' || sight > '>') {
+            if (sort < Rules.LESS || sort > Rules.MORE) {
                 return false;
             }
             pass();
@@ -1579,7 +1582,6 @@ public final class NymphRota {
         }
 
         void begin(int ofKind, int itsNumber, int itsNiche) {
-            clear();
             kind = ofKind;
             number = itsNumber;
             niche = itsNiche;

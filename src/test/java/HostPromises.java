@@ -117,6 +117,11 @@ final class HostPromises {
         due("left out, when OVER", x.goAll(2, 0, 3), x.state(2) - 44 - 8);
         due("OVER", x.state(0), 4);
         due("outside, when OVER", x.goAll(2, 0, 4), -12);
+        x.ends(16);
+        Check.acts(x, 3, 0, 0);
+        due("SHEET 3", x.goAll(3, 1, 1) > 0 ? 1 : 0, 1);
+        due("SHELF 3", x.shelf(3, 1, 3), 1);
+        due("it holds it", x.taken(3, 10), 2);
     }
 
     private void wouldBe() {
@@ -331,7 +336,7 @@ final class HostPromises {
         check.promise(51);
         NymphRota x = Check.five();
         Check.rules(x, "girl keep; marble smoke;");
-        x.report(0, 0, 0, 0);
+        x.report(2, 1, 5, 6);
         x.niche(3, 0, 4);
         x.niche(3, 1, 5);
         x.weather(2, 9);
@@ -349,7 +354,8 @@ final class HostPromises {
         x.change(0, 2, 8);
         x.change(0, 3, 4);
         Check.rules(x, "figure keep;");
-        x.report(1, 1, 1, 1);
+        x.forget();
+        x.report(1, 0, 3, 3);
         x.niche(3, 0, 0);
         x.niche(3, 1, 0);
         x.weather(2, 0);
@@ -374,7 +380,7 @@ final class HostPromises {
         due("RULES", x.many(1), 2);
         due("they tell", x.figureOf(0, 9), 2);
         due("REPORTS", x.many(3), 1);
-        due("they are as they were", x.nymph(0), 50);
+        due("they are as they were: girls of 6 to 8", x.nymph(1) * 1000 + x.nymph(2) * 100 + x.nymph(3), 2600);
         due("SHADE", x.nicheOf(3, 0), 4);
         due("WET", x.nicheOf(3, 1), 5);
         due("WEATHER", x.weather(2, 9), 9);

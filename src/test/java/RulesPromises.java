@@ -76,6 +76,7 @@ final class RulesPromises {
         fault("c", 0);
         fault("figures keep;", 0);
         fault("figur keep;", 0);
+        fault("figurez keep;", 0);
         fault("Figure keep;", 0);
         fault("7 keep;", 0);
         fault("keep;", 0);
@@ -107,6 +108,9 @@ final class RulesPromises {
         fault("figure if () keep;", 11);
         fault("figure if (bell) < 1 keep;", 15);
         fault("figure if bell < 1 and keep;", 23);
+        fault("figure if bell < 1 or keep;", 22);
+        fault("figure if (bell < 1 or) keep;", 22);
+        fault("figure if (bell < 1 and) keep;", 23);
         fault("figure if bell < 1 or or bell < 1 keep;", 22);
         fault("figure if not keep;", 14);
         fault("figure if not", 13);
@@ -145,8 +149,16 @@ final class RulesPromises {
         due("open to the end", Check.rules(x, "girl if " + times(" ", 192)), -300);
         due("letters to the end", Check.rules(x, times("x", 200)), -100);
         due("digits to the end", Check.rules(x, "girl if " + times("1", 192)), -108);
+        due("signs to the end", Check.rules(x, times(";", 200)), -100);
+        due("signs to the end", Check.rules(x, "girl keep" + times(";", 191)), -110);
         due("wrong at the end", Check.rules(x, times(" ", 199) + "!"), -299);
         due("as it was", x.figureOf(1, 9), 2);
+        for (int i = 0; i < 30; i++) {
+            due("again and again", Check.rules(x, "girl if 1<2" + times(" and 3<" + (4 + i), 20) + " keep;"), 1);
+            due("it holds", x.figureOf(1, 9), 1);
+            due("and so", Check.rules(x, "girl if 1<2" + times(" and 3<4", 19) + " and 3=" + i + " keep;"), 1);
+            due("or not", x.figureOf(1, 9), i == 3 ? 1 : 0);
+        }
     }
 
     private void held(String condition, int want) {

@@ -78,6 +78,9 @@ final class StrangerPromises {
         due("GRACE of none", x.nymph(2), -3);
         due("TIRED of none", x.nymph(3), -3);
         due("BAD is named first", x.nymph(9), -1);
+        x.forget();
+        x.report(1, 1, 2, 2);
+        due("UP ones that SHOW 2: girls, matrons, novices, dreamers, whose number is 0", x.nymph(0), 18 + 18 + 60 + 60);
         NymphRota y = new NymphRota();
         y.ends(1);
         y.niche(0, 0, 9);
