@@ -109,12 +109,10 @@ final class BasinPromises {
 
     /** WEARIES of all KINDS, SUN and BELLS, counted by the words of the document. */
     private void wearies() {
-        NymphRota x = new NymphRota();
-        for (int kind = 1; kind <= 5; kind++) {
-            x.figure(kind, 0, 0, 0);
-        }
-        x.ends(16);
         for (int bell = 0; bell <= 16; bell++) {
+            NymphRota x = Scenes.kinds(0, 0);
+            x.ends(16);
+            Scenes.after(x, bell);
             for (int sun = 0; sun <= (bell < 16 ? 3 : 0); sun++) {
                 x.weather(bell, 4 * sun + bell % 4);
                 int figure = 3 + 4 * sun;
@@ -129,10 +127,7 @@ final class BasinPromises {
                     }
                 }
             }
-            x.bell();
         }
-        due("BELL 16", x.state(0), 16);
-        due("no weather behind BELL 15", x.state(5), 0);
     }
 
     private void shows() {

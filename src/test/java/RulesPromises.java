@@ -153,7 +153,7 @@ final class RulesPromises {
         due("signs to the end", Check.rules(x, "girl keep" + times(";", 191)), -110);
         due("wrong at the end", Check.rules(x, times(" ", 199) + "!"), -299);
         due("as it was", x.figureOf(1, 9), 2);
-        for (int i = 0; i < 30; i++) {
+        for (int i = 0; i < 5; i++) {
             due("again and again", Check.rules(x, "girl if 1<2" + times(" and 3<" + (4 + i), 20) + " keep;"), 1);
             due("it holds", x.figureOf(1, 9), 1);
             due("and so", Check.rules(x, "girl if 1<2" + times(" and 3<4", 19) + " and 3=" + i + " keep;"), 1);
